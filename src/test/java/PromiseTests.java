@@ -36,6 +36,7 @@ public final class PromiseTests {
         tests.promise20Count();
         tests.promise21Undo();
         tests.promise21UndoOfEachChange();
+        tests.changesAfterUndoAndFaults();
         tests.promise22Type();
         tests.promise23ClearText();
         tests.promise24FaultOfForm();
@@ -261,6 +262,7 @@ public final class PromiseTests {
         cards("swap(0, 2)", loom, 2, 2, 1, 4);
         due("the stamp goes along", loom.cardOf(0, 2), 1);
         due("the stamp leaves", loom.cardOf(2, 2), 0);
+        due("cards with a stamp", loom.count(1), 1);
         due("swap(3, 2)", loom.swap(3, 2), 1);
         cards("swap(3, 2)", loom, 2, 2, 4, 1);
         due("swap(1, 1)", loom.swap(1, 1), INVALID);
@@ -292,6 +294,9 @@ public final class PromiseTests {
         due("the stamp stays", loom.cardOf(2, 2), 1);
         due("the others have none", loom.count(1), 1);
         due("mirror() of one that stays", with(24).mirror(), 0);
+        LoomTunes one = with(2);
+        due("mirror() of one", one.mirror(), 1);
+        cards("mirror() of one", one, 64);
         due("mirror() of none", new LoomTunes().mirror(), IMPOSSIBLE);
     }
 
@@ -343,6 +348,11 @@ public final class PromiseTests {
         due("cardOf(0, 9) of colours 0 and 2", white.cardOf(0, 9), 5030);
         white.note(3, 0);
         due("cardOf(0, 6) of note 0", white.cardOf(0, 6), 0);
+        white.note(0, 47);
+        due("cardOf(0, 5) of the first thread", white.cardOf(0, 5), 47);
+        white.note(7, 47);
+        white.note(0, 1);
+        due("cardOf(0, 5) of the last thread", white.cardOf(0, 5), 47);
         loom.set(0, 2);
         due("cardOf(5, 8) of bars of 2", loom.cardOf(5, 8), 2);
     }
@@ -389,6 +399,9 @@ public final class PromiseTests {
         due("not long if 8 rows of 8", loom.threadOf(1, 5), 0);
         loom.set(3, 10);
         due("a float over all rows is long", loom.threadOf(7, 5), 1);
+        loom.set(3, 11);
+        due("11 rows are not more than 11", loom.threadOf(7, 5), 0);
+        due("the longest float of one row", with(1).threadOf(0, 4), 1);
         due("threadOf(0, -1)", loom.threadOf(0, -1), INVALID);
         due("threadOf(0, 6)", loom.threadOf(0, 6), INVALID);
         due("threadOf(-1, 0)", loom.threadOf(-1, 0), INVALID);
@@ -526,6 +539,17 @@ public final class PromiseTests {
         loom.bring(2);
         loom.bring(2);
         due("one that would be stamped is none", loom.best(0), 1);
+        loom = with(254);
+        for (int thread = 0; thread < 8; thread++) {
+            loom.note(thread, 20);
+        }
+        due("all holes", loom.best(0), 255);
+        due("best(2) of all holes", loom.best(2), 7);
+        loom.note(0, 21);
+        due("fewer clashes ahead of more holes in common", loom.best(0), 126);
+        due("best(2)", loom.best(2), 6);
+        loom.set(1, 2);
+        due("fewer holes", loom.best(0), 6);
         due("best(3)", loom.best(3), INVALID);
         due("best(-1)", loom.best(-1), INVALID);
         LoomTunes full = full();
@@ -689,6 +713,50 @@ public final class PromiseTests {
         due("the text stays empty", loom.count(10), 0);
     }
 
+    /** A card of 3 is brought and taken back, and an order that fails behind others is refused. */
+    private static LoomTunes afterUndoAndFaults() {
+        LoomTunes loom = with(1, 2);
+        loom.bring(3);
+        loom.undo();
+        write(loom, "c2;n0,1;x99;");
+        loom.fault(0);
+        loom.play();
+        return loom;
+    }
+
+    private void changesAfterUndoAndFaults() {
+        LoomTunes loom = afterUndoAndFaults();
+        due("note", loom.note(0, 9), 12);
+        cards("note", loom, 1, 2);
+        loom = afterUndoAndFaults();
+        due("colour", loom.colour(0, 1), 0);
+        cards("colour", loom, 1, 2);
+        loom = afterUndoAndFaults();
+        due("bring", loom.bring(4), 0);
+        cards("bring", loom, 1, 2, 4);
+        loom = afterUndoAndFaults();
+        due("tear", loom.tear(0), 1);
+        cards("tear", loom, 2);
+        loom = afterUndoAndFaults();
+        due("swap", loom.swap(0, 1), 2);
+        cards("swap", loom, 2, 1);
+        loom = afterUndoAndFaults();
+        due("turn", loom.turn(), 2);
+        cards("turn", loom, 2, 1);
+        loom = afterUndoAndFaults();
+        due("mirror", loom.mirror(), 2);
+        cards("mirror", loom, 128, 64);
+        loom = afterUndoAndFaults();
+        due("set", loom.set(0, 2), 4);
+        cards("set", loom, 1, 2);
+        loom = afterUndoAndFaults();
+        loom.clearText();
+        write(loom, "c5;");
+        due("play", loom.play(), 1);
+        cards("play", loom, 1, 2, 32);
+        due("note after all", loom.threadOf(0, 0), 12);
+    }
+
     private void promise22Type() {
         LoomTunes loom = new LoomTunes();
         due("type(31)", loom.type(31), INVALID);
@@ -715,6 +783,10 @@ public final class PromiseTests {
         due("clearText is no change", loom.count(9), 0);
         write(loom, "x");
         fault(loom, "x after clearText", 0, 1, 1);
+        loom = withText("x0;");
+        loom.clearText();
+        write(loom, "x0");
+        fault(loom, "x0 after clearText", 0, 1, 2);
     }
 
     private void promise24FaultOfForm() {
