@@ -95,6 +95,12 @@ public final class CardBoundaryTests extends Boundary {
         stamps("bring(2)", loom, "--");
     }
 
+    void promise5TheHolesOfACardWithAStamp() {
+        due("tear(1)", Looms.with(1, 1).tear(1), 1);
+        due("tear(1)", Looms.with(255, 255).tear(1), 255);
+        due("tear(1)", Looms.with(0, 0).tear(1), 0);
+    }
+
     void promise5ACardWithoutHolesIsAChange() {
         LoomTunes loom = new LoomTunes();
         loom.bring(0);
@@ -189,6 +195,11 @@ public final class CardBoundaryTests extends Boundary {
         stamps("swap(1, 2)", loom, "--s");
         due("swap(0, 2)", loom.swap(0, 2), 1);
         stamps("swap(0, 2)", loom, "s--");
+    }
+
+    void promise6TheHolesOfACardWithAStamp() {
+        due("swap(0, 2)", Looms.with(1, 2, 2).swap(0, 2), 2);
+        due("swap(2, 0)", Looms.with(1, 2, 2).swap(2, 0), 1);
     }
 
     void promise6CardsWithTheSameHolesAreAChange() {

@@ -185,6 +185,37 @@ public final class HistoryBoundaryTests extends Boundary {
         due("count(7) as it was", loom.count(7), 1);
     }
 
+    void promise21AllThatThereIsComesBack() {
+        for (Looms object : Looms.values()) {
+            LoomTunes loom = object.make();
+            loom.note(0, 0);
+            loom.colour(1, 2);
+            loom.set(object == Looms.FULL ? 0 : 1, 2);
+            loom.bring(31);
+            int changes = object == Looms.FULL ? 3 : 4;
+            for (int time = 0; time < changes; time++) {
+                loom.undo();
+            }
+            due("what there is in " + object, Seen.butStates(loom), Seen.butStates(object.make()));
+        }
+    }
+
+    void promise21EachSettingComesBack() {
+        for (int what = 0; what < 4; what++) {
+            LoomTunes loom = new LoomTunes();
+            loom.set(what, 2);
+            due("undo()", loom.undo(), 0);
+            due("what there is without the setting " + what, Seen.of(loom), Seen.of(new LoomTunes()));
+        }
+    }
+
+    void promise21TheThreadsComeBack() {
+        LoomTunes loom = Looms.text("n0,1;n7,2;k0,3;k7,0;");
+        due("play()", loom.play(), 4);
+        due("undo()", loom.undo(), 0);
+        due("what there is", Seen.butText(loom), Seen.of(new LoomTunes()));
+    }
+
     void promise21StampsComeBack() {
         LoomTunes loom = Looms.with(1, 1, 2);
         loom.tear(1);

@@ -1,7 +1,12 @@
+import java.util.regex.Matcher;
+import java.util.regex.Pattern;
+
 /** The boundary cases of texts, their faults and their orders, each in a test of its own. */
 public final class TextBoundaryTests extends Boundary {
     private static final int OF_FORM = 1;
     private static final int OF_CALL = 2;
+    private static final Pattern ORDER =
+        Pattern.compile("c(?=[0-7])0?1?2?3?4?5?6?7?;|[nk]\\d{1,2},\\d{1,2};|x\\d{1,2};|t;");
 
     public static void main(String[] args) {
         new TextBoundaryTests().run(22, 25);
@@ -262,6 +267,38 @@ public final class TextBoundaryTests extends Boundary {
         breaksOff("x100;", 3);
     }
 
+    /** A sign at any place of an order, instead of the one there or ahead of it. */
+    void promise24AnySignAtAnyPlace() {
+        for (String order : new String[] {"c3;", "c25;", "n1,2;", "k01,02;", "x0;", "x00;", "t;"}) {
+            for (int place = 0; place <= order.length(); place++) {
+                for (char sign = 32; sign <= 126; sign++) {
+                    asTheFormAsks(order.substring(0, place) + sign + order.substring(place));
+                    asTheFormAsks(order.substring(0, place) + sign + order.substring(Math.min(place + 1, order.length())));
+                }
+            }
+        }
+    }
+
+    /** Where the text breaks off, told by the longest of its beginnings that an order can begin with. */
+    private void asTheFormAsks(String text) {
+        Matcher whole = ORDER.matcher(text);
+        if (!whole.lookingAt()) {
+            int at = 0;
+            while (at < text.length() && canBegin(text.substring(0, at + 1))) {
+                at++;
+            }
+            fault(new LoomTunes(), text, 0, OF_FORM, at);
+        } else if (whole.end() == text.length()) {
+            LoomTunes loom = Looms.rewrite(Looms.counted(24), text);
+            due("the form of \"" + text + "\": fault(1)", loom.fault(1) == OF_FORM, false);
+        }
+    }
+
+    private static boolean canBegin(String text) {
+        Matcher beginning = ORDER.matcher(text);
+        return beginning.matches() || beginning.hitEnd();
+    }
+
     void promise24SignsNextToTheDigits() {
         breaksOff("n/,0;", 1);
         breaksOff("n:,0;", 1);
@@ -289,6 +326,7 @@ public final class TextBoundaryTests extends Boundary {
         breaksOff("n0,00 ", 5);
         breaksOff("k0,0:", 4);
         breaksOff("x0t;", 2);
+        breaksOff("t0;", 1);
         breaksOff("t1;", 1);
         breaksOff("tt;", 1);
     }

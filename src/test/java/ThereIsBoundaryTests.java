@@ -132,6 +132,14 @@ public final class ThereIsBoundaryTests extends Boundary {
         cardIs(Looms.notes(Looms.with(255), 9, 9, 9, 9, 9, 9, 9, 9), 0, 3, 0);
     }
 
+    void promise10ClashesOfEachCardAlone() {
+        LoomTunes loom = Looms.with(3, 255, 1, 15, 15);
+        int[] clashes = {1, 16, 0, 4, 4};
+        for (int card = 0; card < clashes.length; card++) {
+            cardIs(loom, card, 3, clashes[card]);
+        }
+    }
+
     void promise10ClashesOfEachStep() {
         boolean[] clash = {false, true, true, false, false, false, true, false, false, false, true, true};
         for (int step = 0; step <= 47; step++) {
@@ -367,6 +375,30 @@ public final class ThereIsBoundaryTests extends Boundary {
         threadIs(loom, 0, 5, 3);
         loom.set(3, 2);
         threadIs(loom, 0, 5, 0);
+    }
+
+    /** In 24 rows the thread k sounds in the first k + 1 rows, and in the row 12 again. */
+    void promise11EachThreadAlone() {
+        int[] cards = new int[24];
+        for (int row = 0; row < 8; row++) {
+            cards[row] = 255 & -1 << row;
+        }
+        cards[12] = 255;
+        LoomTunes loom = Looms.with(cards);
+        loom.set(3, 4);
+        for (int thread = 0; thread < 8; thread++) {
+            threadIs(loom, thread, 2, 2);
+            threadIs(loom, thread, 3, thread + 2);
+            threadIs(loom, thread, 4, 11);
+            threadIs(loom, thread, 5, thread == 7 ? 2 : thread >= 4 ? 3 : 2);
+        }
+    }
+
+    void promise11LongestFloatOfEachThread() {
+        LoomTunes loom = Looms.with(254, 252, 248, 240, 224, 192, 128, 0, 0, 0, 0, 0, 0, 0, 0, 0);
+        for (int thread = 0; thread < 8; thread++) {
+            threadIs(loom, thread, 4, 16 - thread);
+        }
     }
 
     void promise11TheMostLongFloats() {
